@@ -199,7 +199,8 @@ public final class HandRing {
         Program text = reader.program;
         errand.begin(now, steps);
         for (int clause = 0; clause < text.clauseSize; clause++) {
-            for (int time = 0; time < text.clausePart(clause, Program.TIMES); time++) {
+            int times = text.clausePart(clause, Program.TIMES);
+            for (int time = 0; time < times; time++) {
                 if (!errand.runOnce(text, clause, now, steps)) {
                     errand.takeBack(now, steps);
                     stoppedAt = clause;
@@ -261,23 +262,23 @@ public final class HandRing {
     }
 
     public int ring(int what) {
-        circle.drawLost(now, now.lawInForce());
+        circle.draw(now, now.lawInForce(), Circle.BY_LOST);
         return circle.tellRow(false, what);
     }
 
     public int rings() {
-        circle.drawLike(now, now.lawInForce());
+        circle.draw(now, now.lawInForce(), Circle.ALIKE);
         circle.solve(false);
         return circle.countRounds(circle.leastRound(circle.everybody()));
     }
 
     public int narrow(int what) {
-        circle.drawLost(now, now.lawInForce());
+        circle.draw(now, now.lawInForce(), Circle.BY_LOST);
         return circle.tellRow(true, what);
     }
 
     public int gloves(int what) {
-        circle.drawGloves(now, now.lawInForce());
+        circle.draw(now, now.lawInForce(), Circle.BY_GLOVES);
         return circle.tellRow(false, what);
     }
 
@@ -285,7 +286,7 @@ public final class HandRing {
         if (what != 0 && what != 1) {
             return NONE;
         }
-        circle.drawLike(now, now.lawInForce());
+        circle.draw(now, now.lawInForce(), Circle.ALIKE);
         circle.solve(false);
         int most = circle.mostKept();
         return what == 0 && most != NONE ? Integer.bitCount(most) : most;
@@ -295,7 +296,7 @@ public final class HandRing {
         if (what != 0 && what != 1) {
             return NONE;
         }
-        circle.drawLost(now, now.lawInForce());
+        circle.draw(now, now.lawInForce(), Circle.BY_LOST);
         circle.solve(false);
         int part = circle.bestPart();
         return what == 0 && part != NONE ? circle.lostInBoth(part) : part;
@@ -380,7 +381,7 @@ public final class HandRing {
         if (law != NONE && !now.hasLaw(law)) {
             return NONE;
         }
-        circle.drawLost(now, law == NONE ? null : now.laws[law]);
+        circle.draw(now, law == NONE ? null : now.laws[law], Circle.BY_LOST);
         return circle.tellRow(false, 0);
     }
 
@@ -677,9 +678,9 @@ public final class HandRing {
         boolean asksLost;
 
         Program(int opRoom, int clauseRoom) {
-            ops = new int[opRoom];
-            args = new int[opRoom];
-            clauses = new int[clauseRoom * CLAUSE_PARTS];
+            ops = new int[Math.max(0, opRoom)];
+            args = new int[Math.max(0, opRoom)];
+            clauses = new int[Math.max(0, clauseRoom) * CLAUSE_PARTS];
         }
 
         void clear() {
@@ -852,27 +853,32 @@ public final class HandRing {
             for (int i = 0; i < TAPE_MOST && passWord("not"); i++) {
                 turned = !turned;
             }
-            boolean good = isSign('(') ? open() && readTest() && close(')') : readComparison();
-            if (good && turned) {
+            if (isSign('(')) {
+                if (!open() || !readTest() || !close(')')) {
+                    return false;
+                }
+            } else {
+                if (!readSum()) {
+                    return false;
+                }
+                int op = comparisonHere();
+                if (op == NONE) {
+                    return false;
+                }
+                goOn();
+                if (!readSum()) {
+                    return false;
+                }
+                program.emit(op, 0);
+            }
+            if (turned) {
                 program.emit(Program.NOT, 0);
             }
-            return good;
+            return true;
         }
 
-        private boolean readComparison() {
-            if (!readSum()) {
-                return false;
-            }
-            int op = isSign('<') ? Program.LESS : isSign('>') ? Program.MORE : isSign('=') ? Program.SAME : NONE;
-            if (op == NONE) {
-                return false;
-            }
-            goOn();
-            if (!readSum()) {
-                return false;
-            }
-            program.emit(op, 0);
-            return true;
+        private int comparisonHere() {
+            return isSign('<') ? Program.LESS : isSign('>') ? Program.MORE : isSign('=') ? Program.SAME : NONE;
         }
 
         private boolean readSum() {
@@ -1058,7 +1064,7 @@ public final class HandRing {
         boolean broken;
 
         Machine(int wordRoom) {
-            words = new int[wordRoom];
+            words = new int[Math.max(0, wordRoom)];
         }
 
         /** What stands from one place up to another comes to (a TEST: 1, 0); 0 if it is BROKEN. */
@@ -1490,6 +1496,13 @@ public final class HandRing {
     private static final class Circle {
         static final int RING_LEAST = 3;
         static final int ANYBODY = -1;
+
+        // what a hold costs: what is LOST in it; a glove where one is needed; every one the same, so that
+        // every ring is one of the best
+        static final int BY_LOST = 0;
+        static final int BY_GLOVES = 1;
+        static final int ALIKE = 2;
+
         private static final int GROUPS = 1 << PEOPLE_MOST;
         private static final int TOO_MUCH = 1000000;
 
@@ -1509,34 +1522,27 @@ public final class HandRing {
             return (1 << size) - 1;
         }
 
-        void drawLost(Village village, Program law) {
+        void draw(Village village, Program law, int by) {
             size = village.size;
             for (int one = 0; one < size; one++) {
                 for (int other = one + 1; other < size; other++) {
-                    boolean can = judge.canHold(village, law, one, other);
-                    setCost(one, other, can ? judge.lostBetween(village, law, one, other) : NONE);
+                    setCost(one, other, costBy(village, law, by, one, other));
                 }
             }
         }
 
-        /** Every hold that can be costs the same, so that every ring is one of the best. */
-        void drawLike(Village village, Program law) {
-            size = village.size;
-            for (int one = 0; one < size; one++) {
-                for (int other = one + 1; other < size; other++) {
-                    setCost(one, other, judge.canHold(village, law, one, other) ? 1 : NONE);
-                }
+        private int costBy(Village village, Program law, int by, int one, int other) {
+            if (!village.withinReach(one, other)) {
+                return NONE;
             }
-        }
-
-        void drawGloves(Village village, Program law) {
-            size = village.size;
-            for (int one = 0; one < size; one++) {
-                for (int other = one + 1; other < size; other++) {
-                    int glove = judge.isBarred(village, law, one, other) ? 1 : 0;
-                    setCost(one, other, village.withinReach(one, other) ? glove : NONE);
-                }
+            boolean barred = judge.isBarred(village, law, one, other);
+            if (by == BY_GLOVES) {
+                return barred ? 1 : 0;
             }
+            if (barred) {
+                return NONE;
+            }
+            return by == BY_LOST ? judge.lostBetween(village, law, one, other) : 1;
         }
 
         /**
@@ -1544,7 +1550,7 @@ public final class HandRing {
          * costs as little as is answered here.
          */
         int drawSeen(Village village, Program law) {
-            drawLike(village, law);
+            draw(village, law, ALIKE);
             long asked = 0L;
             for (int i = 0; i < village.seenSize; i++) {
                 int one = village.seenLow[i];
@@ -1562,8 +1568,8 @@ public final class HandRing {
         void solve(boolean worst) {
             byWorst = worst;
             int groups = 1 << size;
-            Arrays.fill(least, 0, groups * PEOPLE_MOST, TOO_MUCH);
-            Arrays.fill(ways, 0, groups * PEOPLE_MOST, 0);
+            Arrays.fill(least, TOO_MUCH);
+            Arrays.fill(ways, 0);
             for (int p = 0; p < size; p++) {
                 offer(1 << p, p, 0, 1);
             }
