@@ -274,6 +274,11 @@ public final class PromisesTest {
         faultOfLaw("loses 1 1", 8);
         faultOfLaw("loses 1a", 7);
         faultOfLaw("loses one1", 9);
+        faultOfLaw("loses onez", 6);
+        faultOfLaw("loses aone", 6);
+        faultOfLaw("loses one`", 9);
+        faultOfLaw("loses one{", 9);
+        faultOfLaw("loses 1:", 7);
         faultOfLaw("loses -1", 6);
         faultOfLaw("loses (1)", 6);
         faultOfLaw("loses [1", 8);
@@ -341,6 +346,16 @@ public final class PromisesTest {
         faultOfLaw("loses " + times("0", 394), NONE);
         faultOfLaw("loses " + times("0", 390) + "1000", NONE);
         faultOfLaw("loses " + times("0", 390) + "1001", 6);
+        HandRing x = crowd(2);
+        x.image(0);
+        for (int i = 0; i < 30; i++) {
+            is("eight brackets left open", -6, Due.law(x, "bars if " + times("(", 8) + "1=1"));
+            is("and closed, much else", 0, Due.law(x, "loses 1;loses 3 if " + times("(", 8) + "1=1" + times(")", 8)
+                + " and 1+1+1+1+1+1+1+1+1+1+1+1+1+1+1+1+1+1+1=19"));
+            x.force(0);
+            is("still read well", 3, x.asks(0, 1, 1));
+            x.back(0);
+        }
         faultOfOrders("take " + times("1+", 48) + "1 with 1", NONE);
         faultOfOrders("take " + times("1+", 48) + "1 with 1+1", 110);
         faultOfOrders("pass if " + times("cell 1+", 49) + "cell 1=1", 358);
@@ -490,6 +505,7 @@ public final class PromisesTest {
         is("stopped", 2, x.stopped());
         is("day", 0, x.count(12));
         is("itself", -3, Due.orders(x, "take 1 with 1"));
+        is("the other sum broken", -3, Due.orders(x, "take 1 with 2+0/0"));
         is("nobody", -3, Due.orders(x, "take 1 with 3"));
         is("nobody", -3, Due.orders(x, "walk 0-1 to 1"));
         is("no way", -3, Due.orders(x, "walk 0 to 5"));
@@ -689,6 +705,20 @@ public final class PromisesTest {
         is("cell", 0, y.of(0, 0));
         is("20 of one text", 20, Due.orders(y, "pass times 20"));
         is("16 are kept", 16, y.count(4));
+        for (int day = 19; day >= 4; day--) {
+            is("undo", 3, y.undo());
+            is("day", day, y.count(12));
+        }
+        is("no more", -3, y.undo());
+        for (int i = 0; i < 30; i++) {
+            is("round the middle", 0, y.walk(1, new int[] {1, 2, 3, 4}[i % 4]));
+        }
+        int[] round = {0, 5, 6, 1};
+        for (int i = 29; i >= 14; i--) {
+            is("undo", 2, y.undo());
+            is("cell", round[i % 4], y.of(1, 0));
+        }
+        is("no more", -3, y.undo());
     }
 
     private static void lights() {
@@ -885,6 +915,14 @@ public final class PromisesTest {
         underLaw(y, "bars");
         is("five, and no ring", 0, y.fits(0));
         is("five, and no ring", NONE, y.fits(1));
+        HandRing t = crowd(3);
+        t.seen(0, 1, 1);
+        t.seen(1, 2, 1);
+        t.seen(0, 2, 1);
+        t.seen(2, 0, 1);
+        is("all of it was seen", 1, t.fits(0));
+        rowIs("all of it was seen", new int[] {0, 1, 2}, k -> t.fits(1 + k));
+        is("all of it was seen", 1, t.ask(0));
         HandRing z = underLaw(crowd(5), "bars if one=0 and other=1");
         z.seen(0, 1, 1);
         is("barred", 0, z.fits(0));
@@ -973,6 +1011,8 @@ public final class PromisesTest {
         HandRing x = with(0, 4, 0, 1, 4, 1, 2, 4, 2);
         is("seed", -1, x.days(-1, 1));
         is("seed", -1, x.days(1000001, 1));
+        is("the highest seed", 0, x.days(1000000, 1));
+        x = with(0, 4, 0, 1, 4, 1, 2, 4, 2);
         is("n", -1, x.days(0, 0));
         is("n", -1, x.days(0, 61));
         is("nobody", -3, new HandRing().days(0, 1));
@@ -1061,6 +1101,33 @@ public final class PromisesTest {
         is("image anew", 0, x.image(1));
         is("back", 0, x.back(1));
         is("people", 3, x.count(0));
+        x.take(0, 2);
+        is("back", 0, x.back(1));
+        is("nothing can be undone", 0, x.count(4));
+        is("hands", 2, x.of(0, 3));
+        HandRing y = with(0, 4, 3, 0, 4, 2, 0, 4, 1, 0, 4, 0);
+        y.image(1);
+        y.seen(0, 1, 1);
+        y.seen(1, 2, 0);
+        y.image(0);
+        y.back(1);
+        is("kind", 2, y.of(1, 2));
+        y.seen(2, 3, 0);
+        y.seen(0, 3, 1);
+        is("another ring", 3, y.fits(4));
+        y.back(0);
+        is("what was seen then", 1, y.fits(0));
+        rowIs("what was seen then", new int[] {0, 1, 3, 2}, k -> y.fits(1 + k));
+        HandRing w = with(0, 4, 3);
+        w.image(0);
+        w.person(1, 1, 1);
+        w.image(1);
+        w.back(0);
+        w.person(2, 2, 2);
+        w.back(1);
+        is("the other one's kind", 1, w.of(1, 2));
+        is("the other one's cell", 1, w.of(1, 0));
+        is("the other one's reach", 1, w.of(1, 1));
     }
 
     private static void count() {
