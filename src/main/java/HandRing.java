@@ -1283,7 +1283,8 @@ public final class HandRing {
             if (!village.has(one) || !village.has(other)) {
                 return NO_SUCH;
             }
-            boolean free = Integer.bitCount(village.hands[one]) < HANDS && Integer.bitCount(village.hands[other]) < HANDS;
+            boolean free = Integer.bitCount(village.hands[one]) < HANDS
+                && Integer.bitCount(village.hands[other]) < HANDS;
             Program law = village.lawInForce();
             if (!free || village.holdHands(one, other) || !judge.canHold(village, law, one, other)) {
                 return CANNOT_BE;
@@ -1617,7 +1618,7 @@ public final class HandRing {
             return best < TOO_MUCH ? best : NONE;
         }
 
-        /** Whether the best ring of all costs so much; below 0, where more was seen than a ring has holds, none does. */
+        /** Whether the best ring of all costs so much; below 0 (more was seen than a ring has holds) none does. */
         boolean hasRound(int due) {
             return due >= 0 && leastRound(everybody()) == due;
         }

@@ -28,6 +28,17 @@ final class Due {
         wrong.add(part + ": " + what);
     }
 
+    void same(String call, String want, String got) {
+        asked++;
+        if (!want.equals(got)) {
+            wrong.add(part + ": " + call + " answered " + got + ", due is " + want);
+        }
+    }
+
+    int asked() {
+        return asked;
+    }
+
     int wrong() {
         return wrong.size();
     }

@@ -49,26 +49,15 @@ public final class PromisesTest {
     }
 
     private static HandRing with(int... people) {
-        HandRing x = new HandRing();
-        for (int i = 0; i + 2 < people.length; i += 3) {
-            x.person(people[i], people[i + 1], people[i + 2]);
-        }
-        return x;
+        return Scene.with(people);
     }
 
-    /** So many people in cell 0, all of whom can hold one another's hands. */
     private static HandRing crowd(int n) {
-        HandRing x = new HandRing();
-        for (int i = 0; i < n; i++) {
-            x.person(0, 4, i % 4);
-        }
-        return x;
+        return Scene.crowd(n);
     }
 
     private static HandRing underLaw(HandRing x, String text) {
-        is("law: " + text, x.count(3), Due.law(x, text));
-        x.force(x.count(3) - 1);
-        return x;
+        return Scene.under(x, text);
     }
 
     private static void faultOfLaw(String text, int want) {
