@@ -354,7 +354,7 @@ public final class HandRing {
             return NONE;
         }
         int two = circle.bestAsked(due);
-        return what == 0 ? two : circle.leftAtMost(two / 10, two % 10, due);
+        return what == 0 || two == NONE ? two : circle.leftAtMost(two / 10, two % 10, due);
     }
 
     public long few(int k, int n) {
