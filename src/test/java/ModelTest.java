@@ -9,6 +9,8 @@ public final class ModelTest {
     private static final String[] STRAY = {"if", "or", "and", "not", "loses", "tires", "bars", "take", "with", "loose",
         "from", "walk", "to", "pass", "times", "one", "cell", "hands", "1001", "8", "21", "0", "x"};
 
+    private static final int[] EXTREMES = {Integer.MIN_VALUE, Integer.MAX_VALUE, -1, 8, 255};
+
     private final Random r;
     private final HandRing x = new HandRing();
     private final PlainHandRing y = new PlainHandRing();
@@ -121,6 +123,20 @@ public final class ModelTest {
         return r.nextInt(6) == 0 ? sum(1, false) : "" + r.nextInt(Math.max(1, y.s.n()));
     }
 
+    /** A text at one of the limits of both languages, or just beyond. */
+    private String limitText(boolean law) {
+        String head = law ? "bars" : "pass";
+        int open = r.nextInt(10);
+        int inner = 7 + r.nextInt(3) - open;
+        return switch (r.nextInt(4)) {
+            case 0 -> head + " if 1" + "+1".repeat(46 + r.nextInt(5)) + "=" + (law ? "mood" : "cell 7");
+            case 1 -> head + " if " + "(".repeat(open) + "[".repeat(Math.max(0, inner)) + "1"
+                + "]".repeat(Math.max(0, inner)) + "=1" + ")".repeat(open);
+            case 2 -> head + (";" + head).repeat(9 + r.nextInt(4)) + (r.nextBoolean() ? " ;" : " ");
+            default -> " ".repeat(r.nextInt(397)) + (r.nextInt(4) > 0 ? head : "");
+        };
+    }
+
     private String spoilt(String text) {
         StringBuilder b = new StringBuilder(text);
         int way = r.nextInt(12);
@@ -189,6 +205,9 @@ public final class ModelTest {
 
     private int p() {
         int n = y.s.n();
+        if (r.nextInt(60) == 0) {
+            return EXTREMES[r.nextInt(EXTREMES.length)];
+        }
         return r.nextInt(12) == 0 ? r.nextInt(12) - 2 : r.nextInt(Math.max(1, n));
     }
 
@@ -219,13 +238,13 @@ public final class ModelTest {
             case 6 -> callRow();
             case 7, 8 -> {
                 same("end(0)", y.end(0), x.end(0));
-                text(lawText());
+                text(r.nextInt(8) == 0 ? limitText(true) : lawText());
                 same("law()", y.law(), x.law());
                 same("fault()", y.fault(), x.fault());
             }
             case 9, 10, 11, 12 -> {
                 same("end(0)", y.end(0), x.end(0));
-                text(ordersText());
+                text(r.nextInt(8) == 0 ? limitText(false) : ordersText());
                 same("orders()", y.orders(), x.orders());
                 same("fault()", y.fault(), x.fault());
                 same("stopped()", y.stopped(), x.stopped());

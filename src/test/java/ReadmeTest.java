@@ -77,8 +77,9 @@ public final class ReadmeTest {
     }
 
     private static String run(String commands, Path copy) throws IOException, InterruptedException {
+        // what the JDK tells of its own settings goes to the other stream, and is not what README.md tells
         Process process = new ProcessBuilder("bash", "-e", "-c", commands)
-            .directory(copy.toFile()).redirectErrorStream(true).start();
+            .directory(copy.toFile()).redirectError(ProcessBuilder.Redirect.INHERIT).start();
         String printed = new String(process.getInputStream().readAllBytes());
         due.same("exit of " + commands + printed, 0, process.waitFor());
         return printed;
